@@ -791,11 +791,11 @@ public final class AssignFlow {
         private static final long HALF_MASK = 0xFFFFFFFFL;
         private static final long UNASSIGNED_LANES = 0x0000FFFF0000FFFFL;
         private static final int VARIABLES_MASK = (1 << MAX_VARIABLES) - 1;
-        private static final long ALL = (1L << MAX_VARIABLES + 1) - 1;
+        private static final long ALL = (1L << (MAX_VARIABLES + 1)) - 1;
 
         private static final long NO_WALK = 0L;
         private static final long UNIT_BEGINS = ALL;
-        private static final long BOTH_BEGIN = ALL | ALL << HALF + LANE;
+        private static final long BOTH_BEGIN = ALL | ALL << (HALF + LANE);
 
         private static boolean isReached(long state) {
             return (state >>> MAX_VARIABLES & 1L) == 1L;
@@ -810,12 +810,12 @@ public final class AssignFlow {
         }
 
         private static long assign(long state, int v) {
-            long bits = 1L << v | 1L << v + HALF;
+            long bits = 1L << v | 1L << (v + HALF);
             return state & ~bits | (state & bits) << LANE;
         }
 
         private static long unassign(long state, int v) {
-            long bits = (1L << v | 1L << v + HALF) << LANE;
+            long bits = (1L << v | 1L << (v + HALF)) << LANE;
             return state & ~bits | (state & bits) >>> LANE;
         }
 
@@ -1083,24 +1083,28 @@ public final class AssignFlow {
             long state = points[Ways.BEGIN + p];
             leave(p, state, NONE, true);
             switch (places.sort[p]) {
-                case '0': flow(Ways.FALSE_END + p, state); break;
-                case '1': flow(Ways.TRUE_END + p, state); break;
-                case '$': case '%': flow(Ways.TRUE_END + p, State.unassign(state, places.named[p])); break;
-                case 'B': case 'C': flow(ways.beginTo[p], leave(p, state, places.target[p], false)); break;
-                default: beginOther(p, state);
-            }
-        }
-
-        private void beginOther(int p, long state) {
-            int sort = places.sort[p];
-            if (sort == '#' || isName(sort)) {
-                flow(Ways.TRUE_END + p, state);
-                flow(Ways.FALSE_END + p, state);
-            } else if (sort == 'R' && ways.beginTo[p] == Ways.NOWHERE) {
-                leave(p, state, NONE, false);
-            } else {
-                // An X without e has nowhere to go on to: it raises as all PLACES may, before it begins.
-                flow(ways.beginTo[p], state);
+                case '0':
+                    flow(Ways.FALSE_END + p, state);
+                    break;
+                case '1':
+                    flow(Ways.TRUE_END + p, state);
+                    break;
+                case '$': case '%':
+                    flow(Ways.TRUE_END + p, State.unassign(state, places.named[p]));
+                    break;
+                case 'B': case 'C':
+                    flow(ways.beginTo[p], leave(p, state, places.target[p], false));
+                    break;
+                default:
+                    if (places.sort[p] == '#' || isName(places.sort[p])) {
+                        flow(Ways.TRUE_END + p, state);
+                        flow(Ways.FALSE_END + p, state);
+                    } else if (places.sort[p] == 'R' && ways.beginTo[p] == Ways.NOWHERE) {
+                        leave(p, state, NONE, false);
+                    } else {
+                        // An X without e goes nowhere: it has raised already, as all PLACES may before they begin.
+                        flow(ways.beginTo[p], state);
+                    }
             }
         }
 
@@ -1114,11 +1118,11 @@ public final class AssignFlow {
                     // A way out of the N that is walked for itself is none through it, even if it comes back.
                     return State.NO_WALK;
                 }
-                if (isRaised && part == PART_TRY && places.hasCatch(t)) {
+                if (isRaised && part == PART_TRY && places.catchFrom[t] != NONE) {
                     flow(ways.catchTo[t], left);
                     return State.NO_WALK;
                 }
-                if (part != PART_FINALLY && places.hasFinally(t)) {
+                if (part != PART_FINALLY && places.finallyFrom[t] != NONE) {
                     flow(ways.finallyTo[t], left);
                     left = State.through(finallyMakes[t], left);
                 }
