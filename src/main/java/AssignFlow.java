@@ -651,10 +651,9 @@ public final class AssignFlow {
             if (d == NONE || jumpSort == 'B') {
                 return d == NONE ? NONE : placeAround[d];
             }
-            // The body of the LABEL is the next statement inwards, if the jump is not that body itself.
-            int inner = d + 1;
-            boolean hasLoop = inner < depth && inner < MAX_STATEMENTS_AROUND && isLoop(sortAround[inner]);
-            return hasLoop ? placeAround[inner] : NONE;
+            // The body of the LABEL is the next statement inwards, or else the C itself.
+            int body = d + 1;
+            return body < MAX_STATEMENTS_AROUND && isLoop(sortAround[body]) ? placeAround[body] : NONE;
         }
 
         private int depthOfLabel(int label, int depth) {
