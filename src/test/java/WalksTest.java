@@ -802,7 +802,7 @@ public final class WalksTest {
 
     // ---- comparing ----
 
-    private static void compare(Check check, String text, Maker maker, Printer printer, Walker walker, Node root) {
+    private static void compare(Check check, String text, Maker maker, Printer printer, Walker walker) {
         AssignFlow flow = new AssignFlow();
         String of = "of <" + text.replace("\n", "\\n") + ">: ";
         int n = printer.places.size();
@@ -903,7 +903,7 @@ public final class WalksTest {
             if (!walker.walkAll()) {
                 continue;
             }
-            compare(check, text, maker, printer, walker, root);
+            compare(check, text, maker, printer, walker);
             for (Node p : printer.places) {
                 sorts[p.sort]++;
             }
