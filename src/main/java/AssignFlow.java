@@ -2,9 +2,11 @@
 public final class AssignFlow {
     public static final int NONE = -1, BAD = -2, FULL = -3, SHAPE = -4;
 
-    // Each PLACE has a sign of its own that no other one has (its operator, its letter, its ; or {), so there are
-    // never more PLACES than signs.
     private static final int MAX_SIGNS = 240;
+    // Each PLACE has a sign of its own that no other one has (its operator, its letter, its ; or {), so a whole unit
+    // never has more PLACES than signs. But the stmt of an e has its row before its ; is read: one that breaks off
+    // there has one PLACE more.
+    private static final int MAX_PLACES = MAX_SIGNS + 1;
     private static final int MAX_BYTES = 8;
     private static final int MAX_VARIABLES = 12;
     private static final int MAX_STATEMENTS_AROUND = 20;
@@ -219,26 +221,26 @@ public final class AssignFlow {
      * PLACE p are the PLACES from p + 1 to end[p] - 1.
      */
     private static final class Places {
-        private final int[] sort = new int[MAX_SIGNS];
-        private final int[] first = new int[MAX_SIGNS];
-        private final int[] named = new int[MAX_SIGNS];
-        private final int[] there = new int[MAX_SIGNS];
-        private final int[] end = new int[MAX_SIGNS];
-        private final int[] around = new int[MAX_SIGNS];
+        private final int[] sort = new int[MAX_PLACES];
+        private final int[] first = new int[MAX_PLACES];
+        private final int[] named = new int[MAX_PLACES];
+        private final int[] there = new int[MAX_PLACES];
+        private final int[] end = new int[MAX_PLACES];
+        private final int[] around = new int[MAX_PLACES];
         // Within T: in which of its { } this PLACE is; within others: how many PLACES come ahead of it there.
-        private final int[] part = new int[MAX_SIGNS];
+        private final int[] part = new int[MAX_PLACES];
         // The nearest T around, and in which of its { }.
-        private final int[] tryAround = new int[MAX_SIGNS];
-        private final int[] tryPart = new int[MAX_SIGNS];
+        private final int[] tryAround = new int[MAX_PLACES];
+        private final int[] tryPart = new int[MAX_PLACES];
         // Of B: the statement behind which it goes. Of C: the loop to whose next round it goes.
-        private final int[] target = new int[MAX_SIGNS];
+        private final int[] target = new int[MAX_PLACES];
         // Of T: where the PLACES of K and of N begin; NONE without K, without N.
-        private final int[] catchFrom = new int[MAX_SIGNS];
-        private final int[] finallyFrom = new int[MAX_SIGNS];
+        private final int[] catchFrom = new int[MAX_PLACES];
+        private final int[] finallyFrom = new int[MAX_PLACES];
         // Of an item of S: whether L : or O : is right ahead of it.
-        private final boolean[] isEntered = new boolean[MAX_SIGNS];
+        private final boolean[] isEntered = new boolean[MAX_PLACES];
         // Of S: whether some WALK goes from its e right behind all items.
-        private final boolean[] isSkipped = new boolean[MAX_SIGNS];
+        private final boolean[] isSkipped = new boolean[MAX_PLACES];
         private int size = 0;
         private int thereAtEnd = 0;
 
@@ -252,7 +254,7 @@ public final class AssignFlow {
         }
 
         private boolean append(int newSort, int newFirst, int newNamed, int newThere) {
-            if (size >= MAX_SIGNS) {
+            if (size >= MAX_PLACES) {
                 return false;
             }
             int p = size;
@@ -302,7 +304,7 @@ public final class AssignFlow {
             for (int p = 0; p < size; p++) {
                 int sibling = NONE;
                 int outer = p - 1;
-                for (int k = 0; k < MAX_SIGNS && has(outer) && end[outer] <= p; k++) {
+                for (int k = 0; k < MAX_PLACES && has(outer) && end[outer] <= p; k++) {
                     sibling = outer;
                     outer = around[outer];
                 }
@@ -835,18 +837,18 @@ public final class AssignFlow {
     private static final class Ways {
         private static final int NOWHERE = -1;
         private static final int BEGIN = 0;
-        private static final int TRUE_END = MAX_SIGNS;
-        private static final int FALSE_END = 2 * MAX_SIGNS;
-        private static final int INNER = 3 * MAX_SIGNS;
-        private static final int BEHIND_ALL = 4 * MAX_SIGNS;
+        private static final int TRUE_END = MAX_PLACES;
+        private static final int FALSE_END = 2 * MAX_PLACES;
+        private static final int INNER = 3 * MAX_PLACES;
+        private static final int BEHIND_ALL = 4 * MAX_PLACES;
         private static final int POINTS = BEHIND_ALL + 1;
 
         private final Places places;
-        private final int[] beginTo = new int[MAX_SIGNS];
-        private final int[] trueTo = new int[MAX_SIGNS];
-        private final int[] falseTo = new int[MAX_SIGNS];
-        private final int[] catchTo = new int[MAX_SIGNS];
-        private final int[] finallyTo = new int[MAX_SIGNS];
+        private final int[] beginTo = new int[MAX_PLACES];
+        private final int[] trueTo = new int[MAX_PLACES];
+        private final int[] falseTo = new int[MAX_PLACES];
+        private final int[] catchTo = new int[MAX_PLACES];
+        private final int[] finallyTo = new int[MAX_PLACES];
 
         private Ways(Places places) {
             this.places = places;
@@ -1000,7 +1002,7 @@ public final class AssignFlow {
         private final Ways ways;
         private final long[] points = new long[Ways.POINTS];
         // Of T with N: the state at the end of N, of WALKS that begin at the beginning of N and never leave it.
-        private final long[] finallyMakes = new long[MAX_SIGNS];
+        private final long[] finallyMakes = new long[MAX_PLACES];
         private long atEnd = State.NO_WALK;
         // The T whose N is walked for itself, NONE if the unit is walked.
         private int root = NONE;
@@ -1057,7 +1059,7 @@ public final class AssignFlow {
                 begin(p);
                 // Ends p, and what is around it if nothing within comes behind p.
                 int q = p;
-                for (int k = 0; k < MAX_SIGNS && q >= from && places.has(q) && places.end[q] == p + 1; k++) {
+                for (int k = 0; k < MAX_PLACES && q >= from && places.has(q) && places.end[q] == p + 1; k++) {
                     passOn(q);
                     q = places.around[q];
                 }
@@ -1175,7 +1177,7 @@ public final class AssignFlow {
         private final Places places;
         private final Variables variables;
         private final Walks walks;
-        private final int[] wrong = new int[MAX_SIGNS];
+        private final int[] wrong = new int[MAX_PLACES];
         private int size = 0;
 
         private Judge(Places places, Variables variables, Walks walks) {

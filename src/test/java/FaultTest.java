@@ -265,6 +265,46 @@ public final class FaultTest {
         good("X" + times(29, "!") + "#;");
     }
 
+    /** The FAULT of a text moves with it, if as many PLACES as there can be stand ahead of it. */
+    private static void atFullLength(String text) {
+        AssignFlow flow = new AssignFlow();
+        Check.read(flow, text);
+        int alone = flow.fault();
+        for (int all = 238; all <= 240; all++) {
+            int ahead = all - text.length();
+            String full = times(ahead / 2, "0;") + times(ahead % 2, " ") + text;
+            fault(full, alone == AssignFlow.NONE ? AssignFlow.NONE : alone + ahead);
+        }
+    }
+
+    private static void fullLength() {
+        fault(times(119, "0;") + "!0", 240);
+        fault(times(119, "0;") + "0&", 240);
+        fault(times(119, "0;") + "0|", 240);
+        fault(times(119, "0;") + "0?", 240);
+        fault(times(119, "0;") + "00", 239);
+        fault(times(119, "0;") + "!;", 239);
+        fault(times(119, "0;") + "{{", 240);
+        fault(times(118, "0;") + "!0&0", 240);
+        fault(times(118, "0;") + "!!!0", 240);
+        fault(times(118, "0;") + "R!!0", 240);
+        fault("{" + times(119, "0;") + "0", 240);
+        good(times(120, "0;"));
+        good("{" + times(119, "0;") + "}");
+        good(times(116, "0;") + "!!!!!!0;");
+        String signs = "$%{}:;(IWDFSTBCRXa2#0!&|?=";
+        for (char a : signs.toCharArray()) {
+            atFullLength("" + a);
+            for (char b : signs.toCharArray()) {
+                atFullLength("" + a + b);
+                for (char c : signs.toCharArray()) {
+                    atFullLength("" + a + b + c);
+                    atFullLength("!" + a + b + c);
+                }
+            }
+        }
+    }
+
     /** What follows a FAULT never moves it, and what stands ahead of it has none, or only lacks its end. */
     private static void firstSign(AssignFlow flow, String text) {
         Check.read(flow, text);
@@ -316,6 +356,7 @@ public final class FaultTest {
         jumpsWithoutLabels();
         depthOfStatements();
         depthOfExpressions();
+        fullLength();
         allTexts();
         CHECK.end();
     }
