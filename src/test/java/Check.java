@@ -1,14 +1,48 @@
+import java.io.IOException;
+import java.nio.file.Files;
+import java.nio.file.Path;
+
 /** Counts the answers that are not as due, and reads whole texts into an AssignFlow. */
 final class Check {
+    private static final Path DOCUMENT = Path.of("../shared/DOC.md");
+
+    private final String document = Files.isReadable(DOCUMENT) ? wordsOf(DOCUMENT) : "";
+    private String sentence = "";
+    private int asked = 0;
     private int wrong = 0;
     private int done = 0;
+
+    private static String wordsOf(Path file) {
+        try {
+            return Files.readString(file).replaceAll("\\s+", " ");
+        } catch (IOException e) {
+            throw new IllegalStateException(e);
+        }
+    }
+
+    /** From here on, the answers are due because these words of the document ask for them. */
+    void sentence(String promise, String words) {
+        endSentence();
+        sentence = promise + ", \"" + words + "\": ";
+        if (!document.isEmpty()) {
+            isTrue("the document says so", document.contains(words));
+        }
+        asked = done;
+    }
+
+    /** A sentence without a test of its own would pass whatever the class answers. */
+    private void endSentence() {
+        if (!sentence.isEmpty()) {
+            isTrue("some answer was asked for", done > asked);
+        }
+    }
 
     void due(String what, long got, long want) {
         done++;
         if (got != want) {
             wrong++;
             if (wrong <= 50) {
-                System.out.println(what + " answered " + got + ", due is " + want);
+                System.out.println(sentence + what + " answered " + got + ", due is " + want);
             }
         }
     }
@@ -22,6 +56,7 @@ final class Check {
     }
 
     void end() {
+        endSentence();
         System.out.println(done + " answers, " + wrong + " not as due");
         if (wrong != 0) {
             System.exit(1);
