@@ -336,6 +336,24 @@ public final class AnswersBoundaryTest {
         fact("$a;T{a=1;}N{}", 1, AFTER, 1, 1, 0);
     }
 
+    private static void bothEnds() {
+        CHECK.sentence("Promise 7 (WALKS)", "stmts of e, R, X go on from both ends.");
+        isReached("0;", 0, AFTER, 1);
+        isReached("1;", 0, AFTER, 1);
+        fact("$a;#&(a=1);", 1, AFTER, 1, 0, 0);
+        fact("$a;#?a=1:(a=0);", 1, AFTER, 1, 1, 0);
+        isReached("T{X 0;}K{#;}", 3, BEFORE, 1);
+        isReached("T{R 1;}N{#;}", 3, BEFORE, 1);
+        fact("$a;T{R#&(a=1);}N{#;}", 7, BEFORE, 1, 0, 0);
+
+        CHECK.sentence("Promise 7 (WALKS)", "$, % : the VARIABLE is not ASSIGNED.");
+        fact("W(#){%a;a=1;}", 3, AFTER, 1, 0, 1);
+        fact("D{$a;a=1;}(#);", 2, AFTER, 1, 0, 1);
+        // Items that are entered behind the $ keep what an earlier round has done.
+        fact("W(#)S(#){L:$a;a=1;O:#;}", 8, BEFORE, 1, 0, 0);
+        fact("S(#){L:$a;O:#;}", 3, BEFORE, 1, 0, 1);
+    }
+
     private static void roundsOfWalks() {
         CHECK.sentence("Promise 7 (WALKS)", "I: to its body if TRUE, else to that of E, or on.");
         isReached("I(0){}", 2, BEFORE, 0);
@@ -688,6 +706,7 @@ public final class AnswersBoundaryTest {
         bitsOfFacts();
         ends();
         afterJumps();
+        bothEnds();
         roundsOfWalks();
         casesOfWalks();
         triesOfWalks();

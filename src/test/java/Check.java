@@ -57,6 +57,9 @@ final class Check {
 
     void end() {
         endSentence();
+        if (!sentence.isEmpty() && document.isEmpty()) {
+            System.out.println(DOCUMENT + " is not here: the words of the sentences were not compared with it");
+        }
         System.out.println(done + " answers, " + wrong + " not as due");
         if (wrong != 0) {
             System.exit(1);
