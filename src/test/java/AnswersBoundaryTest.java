@@ -156,6 +156,9 @@ public final class AnswersBoundaryTest {
             }
         }
         variablesOfPlaces("$a;%b;a=b;", 0, 1, NONE, 0, 1);
+        variablesOfPlaces("$a;a&a;", 0, NONE, NONE, 0, 0);
+        variablesOfPlaces("$a;a|a;", 0, NONE, NONE, 0, 0);
+        variablesOfPlaces("$a;a?!a:a;", 0, NONE, NONE, 0, NONE, 0, 0);
         AssignFlow flow = Check.of(TWELVE + "l=k=a;");
         for (int v = 0; v < 12; v++) {
             due("VARIABLE " + v, flow.place(v, 3), v);
@@ -483,6 +486,17 @@ public final class AnswersBoundaryTest {
         fact("$a;W(1)T{B;}N{a=1;}", 1, AFTER, 1, 1, 0);
         fact("$a;T{a=1;}N{#;}#;", 5, BEFORE, 1, 0, 0);
         fact("$a;T{a=1;}N{#;}#;", 7, BEFORE, 1, 1, 0);
+        // A jump that stays within a { } does not leave it.
+        fact("$a;T{2:{B2;}#;}N{a=1;}", 5, BEFORE, 1, 0, 1);
+        fact("$a;T{D C;(#);}K{}N{a=1;}", 4, BEFORE, 1, 0, 1);
+        isReached("T{}N{2:{B2;}}", 0, AFTER, 1);
+        isReached("T{}N{D C;(#);}", 0, AFTER, 1);
+        isReached("T{T{2:B2;}N{R;}}N{}", 0, AFTER, 0);
+        // An N within an N.
+        fact("$a;T{}N{T{}N{}}", 1, AFTER, 1, 0, 1);
+        fact("$a;a=1;T{}N{T{}N{}}", 4, AFTER, 1, 1, 0);
+        fact("$a;T{}N{T{a=1;}N{}}", 1, AFTER, 1, 1, 0);
+        fact("$a;W(1)T{B;}N{T{}N{a=1;}}", 1, AFTER, 1, 1, 0);
         due("raised in K, B in N", Check.of("W(1)T{X;}K{X;}N{B;}").count(4), 1);
 
         CHECK.sentence("Promise 7 (WALKS)", "What raises and finds nothing leaves the unit.");
@@ -492,6 +506,9 @@ public final class AnswersBoundaryTest {
         due("X in T, X in K", Check.of("T{X;}K{X;}").count(4), 0);
         due("X in N", Check.of("T{}N{X;}").count(4), 0);
         isReached("X;#;", 1, BEFORE, 0);
+        // It begins no second round of the first PLACE.
+        fact("S(#){L:$a;a=1;X;O:#;}", 7, BEFORE, 1, 0, 1);
+        fact("S(#){L:$a;a=1;R;O:#;}", 7, BEFORE, 1, 0, 1);
     }
 
     private static void errors(String text, int... placesAndKinds) {

@@ -23,6 +23,8 @@ public final class CallsBoundaryTest {
         "{".repeat(20) + "}".repeat(20), "$a;{$b;b=a;}{%b;b=1;b=1;}S(0){L:$b;O:b;L:}",
         // The same PLACES, but those behind R are not REACHED, nor is the item or the stmt behind the other R.
         "$a;S(#){}", "R;S(#){}", "$a;T{}N{}", "R;T{}N{}", "S(#){L:#;}", "T{R;{}}K{}N{}",
+        // The same PLACES, but a is ASSIGNED ahead of one N alone.
+        "$a;T{a=1;}N{#;}", "$a;T{{#;}}N{#;}",
         "}", TWELVE + "$m;", "$a;a=1;R;{a;", MANY.substring(0, 239), "T{T{a", "W(#)".repeat(21)};
 
     private static void due(String what, long got, long want) {
