@@ -1,12 +1,7 @@
 /** The sentences of promises 6 to 10 that name a boundary case, each with a test of its own. */
-public final class AnswersBoundaryTest {
-    private static final Check CHECK = new Check();
-    private static final int NONE = AssignFlow.NONE, BAD = AssignFlow.BAD;
-    private static final int BEFORE = 0, AFTER = 1, WHEN_TRUE = 2, WHEN_FALSE = 3;
+public final class AnswersBoundaryTest extends TextCheck {
     private static final int[] FAR = {
         Integer.MIN_VALUE, Integer.MIN_VALUE + 1, -65535, -255, -1, 256, 257, 65537, 1 << 24, Integer.MAX_VALUE};
-    private static final String TWELVE = "$a;%b;$c;%d;$e;%f;$g;%h;$i;%j;$k;%l;";
-    private static final int ALL_TWELVE = (1 << 12) - 1;
 
     // A text, and the PLACE in it that has the sort which stands first.
     private static final Object[][] STATEMENTS = {
@@ -16,58 +11,6 @@ public final class AnswersBoundaryTest {
     private static final Object[][] PARTS_OF_E = {
         {'a', "$a;a;", 2}, {'z', "%z;z;", 2}, {'0', "0;", 1}, {'1', "1;", 1}, {'#', "#;", 1}, {'!', "!#;", 1},
         {'&', "#&#;", 1}, {'|', "#|#;", 1}, {'?', "#?#:#;", 1}, {'=', "$a;a=1;", 2}};
-
-    private static void due(String what, long got, long want) {
-        CHECK.due(what, got, want);
-    }
-
-    /** Whether PLACE p is REACHED then, what is ASSIGNED for sure and what for sure is not. */
-    private static void fact(String text, int p, int when, int reached, int sure, int not) {
-        AssignFlow flow = Check.of(text);
-        String name = "<" + text + "> fact(" + p + ", " + when + ", ";
-        due(name + "0)", flow.fact(p, when, 0), reached);
-        due(name + "1)", flow.fact(p, when, 1), sure);
-        due(name + "2)", flow.fact(p, when, 2), not);
-    }
-
-    /** At the beginning of a unit, and two PLACES further on, it is the same. */
-    private static void isReached(String text, int p, int when, int reached) {
-        String name = "<" + text + "> fact(" + p + ", " + when + ", 0)";
-        due(name, Check.of(text).fact(p, when, 0), reached);
-        due(name + " further on", Check.of("0;" + text).fact(p + 2, when, 0), reached);
-    }
-
-    private static void firstSigns(String text, int... signs) {
-        AssignFlow flow = Check.of(text);
-        due("<" + text + "> PLACES", flow.count(0), signs.length);
-        for (int p = 0; p < signs.length; p++) {
-            due("<" + text + "> place(" + p + ", 1)", flow.place(p, 1), signs[p]);
-        }
-    }
-
-    private static void sorts(String text, String sorts) {
-        AssignFlow flow = Check.of(text);
-        due("<" + text + "> PLACES", flow.count(0), sorts.length());
-        for (int p = 0; p < sorts.length(); p++) {
-            due("<" + text + "> place(" + p + ", 0)", flow.place(p, 0), sorts.charAt(p));
-        }
-    }
-
-    private static void arounds(String text, int... arounds) {
-        AssignFlow flow = Check.of(text);
-        due("<" + text + "> PLACES", flow.count(0), arounds.length);
-        for (int p = 0; p < arounds.length; p++) {
-            due("<" + text + "> place(" + p + ", 2)", flow.place(p, 2), arounds[p]);
-        }
-    }
-
-    private static void variablesOfPlaces(String text, int... variables) {
-        AssignFlow flow = Check.of(text);
-        due("<" + text + "> PLACES", flow.count(0), variables.length);
-        for (int p = 0; p < variables.length; p++) {
-            due("<" + text + "> place(" + p + ", 3)", flow.place(p, 3), variables[p]);
-        }
-    }
 
     private static void numbers() {
         CHECK.sentence("Promise 6 (PLACES)", "numbered from 0 on by their first signs; of those that begin with one "
@@ -511,18 +454,6 @@ public final class AnswersBoundaryTest {
         fact("S(#){L:$a;a=1;R;O:#;}", 7, BEFORE, 1, 0, 1);
     }
 
-    private static void errors(String text, int... placesAndKinds) {
-        AssignFlow flow = Check.of(text);
-        int many = placesAndKinds.length / 2;
-        due("<" + text + "> count(2)", flow.count(2), many);
-        for (int i = 0; i < many; i++) {
-            due("<" + text + "> error(" + i + ", 0)", flow.error(i, 0), placesAndKinds[2 * i]);
-            due("<" + text + "> error(" + i + ", 1)", flow.error(i, 1), placesAndKinds[2 * i + 1]);
-        }
-        due("<" + text + "> error(" + many + ", 0)", flow.error(many, 0), NONE);
-        due("<" + text + "> error(" + many + ", 1)", flow.error(many, 1), NONE);
-    }
-
     private static void kindsOfErrors() {
         CHECK.sentence("Promise 8 (ERRORS)", "1 a NAME that is used, whose PLACE is REACHED, and which is not ASSIGNED "
             + "for sure there.");
@@ -596,13 +527,6 @@ public final class AnswersBoundaryTest {
         }
     }
 
-    private static void variable(String text, int v, int... answers) {
-        AssignFlow flow = Check.of(text);
-        for (int what = 0; what < answers.length; what++) {
-            due("<" + text + "> variable(" + v + ", " + what + ")", flow.variable(v, what), answers[what]);
-        }
-    }
-
     private static void promise9() {
         CHECK.sentence("Promise 9", "what = 0 its NAME, 1 whether it is FINAL (1 or 0), 2 the PLACE that gives it");
         for (int v = 0; v < 12; v++) {
@@ -654,13 +578,6 @@ public final class AnswersBoundaryTest {
             for (int far : FAR) {
                 due("variable(0, " + far + ")", flow.variable(0, far), BAD);
             }
-        }
-    }
-
-    private static void counts(String text, int... counts) {
-        AssignFlow flow = Check.of(text);
-        for (int what = 0; what < counts.length; what++) {
-            due("<" + text + "> count(" + what + ")", flow.count(what), counts[what]);
         }
     }
 

@@ -6,18 +6,23 @@ import java.nio.file.Path;
 final class Check {
     private static final Path DOCUMENT = Path.of("../shared/DOC.md");
 
-    private final String document = Files.isReadable(DOCUMENT) ? wordsOf(DOCUMENT) : "";
+    private final String document = wordsOf(document());
     private String sentence = "";
     private int asked = 0;
     private int wrong = 0;
     private int done = 0;
 
-    private static String wordsOf(Path file) {
+    /** DOC.md as it stands there, nothing if it is not here. */
+    static String document() {
         try {
-            return Files.readString(file).replaceAll("\\s+", " ");
+            return Files.isReadable(DOCUMENT) ? Files.readString(DOCUMENT) : "";
         } catch (IOException e) {
             throw new IllegalStateException(e);
         }
+    }
+
+    static String wordsOf(String text) {
+        return text.replaceAll("\\s+", " ").strip();
     }
 
     /** From here on, the answers are due because these words of the document ask for them. */

@@ -2,8 +2,7 @@
  * Where the FAULT of a text is: each sentence of the document that names a boundary case of texts has a test of its
  * own, by hand; then what holds for all texts.
  */
-public final class FaultTest {
-    private static final Check CHECK = new Check();
+public final class FaultTest extends TextCheck {
     private static final String FAULT = "Promise 5 (THE FAULT)";
     private static final String TEXTS = "Promise 4 (TEXTS)";
     private static final String UNIT = "Promise 4 (the unit)";
@@ -20,17 +19,6 @@ public final class FaultTest {
         "%a;T{T{a=1;}N{2:{B2;}}}K{X;}3:I(#)I(1)a=0;E{}E#;"};
 
     private static final String SIGNS = "$%{}:;()IEWDFSLOTKNBCRXaz029#!&|?= \n~@A";
-
-    private static void fault(String text, int due) {
-        AssignFlow flow = new AssignFlow();
-        int read = Check.read(flow, text);
-        CHECK.due("fault() of <" + text + ">", flow.fault(), due);
-        CHECK.isTrue("read() of <" + text + "> refuses", (read == AssignFlow.SHAPE) == (due != AssignFlow.NONE));
-    }
-
-    private static void good(String text) {
-        fault(text, AssignFlow.NONE);
-    }
 
     private static String times(int n, String s) {
         return s.repeat(n);
@@ -142,7 +130,7 @@ public final class FaultTest {
         String wide = text.substring(0, gap) + blanks + text.substring(gap);
         AssignFlow narrow = Check.of(text);
         AssignFlow flow = Check.of(wide);
-        CHECK.due("fault() of <" + wide + ">", flow.fault(), AssignFlow.NONE);
+        CHECK.due("fault() of <" + wide + ">", flow.fault(), NONE);
         CHECK.due("PLACES of <" + wide + ">", flow.count(0), narrow.count(0));
         for (int p = 0; p < narrow.count(0); p++) {
             int first = narrow.place(p, 1);
@@ -167,7 +155,7 @@ public final class FaultTest {
         fault("  E", 2);
         for (char c = 0; c < 256; c++) {
             boolean isBlank = c == 32 || c == 10;
-            fault("#" + c + ";", isBlank ? AssignFlow.NONE : ";&|?".indexOf(c) >= 0 ? 2 : 1);
+            fault("#" + c + ";", isBlank ? NONE : ";&|?".indexOf(c) >= 0 ? 2 : 1);
         }
     }
 
@@ -318,10 +306,10 @@ public final class FaultTest {
             boolean isName = c >= 'a' && c <= 'z';
             boolean isLabel = c >= '2' && c <= '9';
             boolean isBlank = c == ' ' || c == '\n';
-            fault("$" + c + ";", isName ? AssignFlow.NONE : isBlank ? 2 : 1);
-            fault("%" + c + ";", isName ? AssignFlow.NONE : isBlank ? 2 : 1);
+            fault("$" + c + ";", isName ? NONE : isBlank ? 2 : 1);
+            fault("%" + c + ";", isName ? NONE : isBlank ? 2 : 1);
             boolean begins = isBlank || STATEMENT.indexOf(c) >= 0;
-            fault(c + ":{}", isLabel ? AssignFlow.NONE : begins ? 1 : 0);
+            fault(c + ":{}", isLabel ? NONE : begins ? 1 : 0);
         }
         fault("W(#)B1;", 5);
         fault("W(#)C0;", 5);
@@ -463,18 +451,18 @@ public final class FaultTest {
     /** All signs that may come next, tried against all that there are; isWhole tells that the text may end here. */
     private static void next(String ahead, String signs, boolean isWhole) {
         int at = ahead.length();
-        fault(ahead, isWhole ? AssignFlow.NONE : at);
+        fault(ahead, isWhole ? NONE : at);
         for (char c = 0; c < 256; c++) {
             String text = ahead + c;
             if (c == ' ' || c == '\n') {
-                fault(text, isWhole ? AssignFlow.NONE : at + 1);
+                fault(text, isWhole ? NONE : at + 1);
             } else if (signs.indexOf(c) < 0) {
                 fault(text, at);
                 fault(ahead + " \n" + c, at + 2);
                 fault(text + "}", at);
             } else {
                 int found = Check.of(text).fault();
-                CHECK.isTrue("<" + text + "> goes on", found == AssignFlow.NONE || found == at + 1);
+                CHECK.isTrue("<" + text + "> goes on", found == NONE || found == at + 1);
             }
         }
     }
@@ -611,7 +599,7 @@ public final class FaultTest {
         for (int all = 238; all <= 240; all++) {
             int ahead = all - text.length();
             String full = times(ahead / 2, "0;") + times(ahead % 2, " ") + text;
-            fault(full, alone == AssignFlow.NONE ? AssignFlow.NONE : alone + ahead);
+            fault(full, alone == NONE ? NONE : alone + ahead);
         }
     }
 
@@ -647,12 +635,12 @@ public final class FaultTest {
     /** What follows a FAULT never moves it, and what stands ahead of it has none, or only lacks its end. */
     private static void firstSign(String text) {
         int at = Check.of(text).fault();
-        if (at == AssignFlow.NONE) {
+        if (at == NONE) {
             return;
         }
         CHECK.isTrue("the fault of <" + text + "> is in it", at >= 0 && at <= text.length());
         int ahead = Check.of(text.substring(0, at)).fault();
-        CHECK.isTrue("ahead of the fault of <" + text + ">", ahead == AssignFlow.NONE || ahead == at);
+        CHECK.isTrue("ahead of the fault of <" + text + ">", ahead == NONE || ahead == at);
         if (at < text.length()) {
             CHECK.isTrue("the fault of <" + text + "> is no blank", text.charAt(at) != ' ' && text.charAt(at) != '\n');
             CHECK.due("fault() of <" + text + "> cut behind it", Check.of(text.substring(0, at + 1)).fault(), at);
@@ -667,7 +655,7 @@ public final class FaultTest {
             for (int i = 0; i < text.length(); i++) {
                 String cut = text.substring(0, i);
                 int end = Check.of(cut).fault();
-                CHECK.isTrue("the beginning <" + cut + ">", end == AssignFlow.NONE || end == i);
+                CHECK.isTrue("the beginning <" + cut + ">", end == NONE || end == i);
                 for (char c : SIGNS.toCharArray()) {
                     firstSign(cut + c + text.substring(i + 1));
                     firstSign(cut + c + text.substring(i));
