@@ -70,8 +70,9 @@ public final class DocumentTest extends TextCheck {
     private static void face() {
         String words = "public final class AssignFlow { public static final int NONE = -1, BAD = -2, FULL = -3, "
             + "SHAPE = -4; public AssignFlow(); public int collect(long w, int n); public int forget(); public int "
-            + "read(); public int fault(); public int place(int p, int what); public int fact(int p, int when, int what); "
-            + "public int error(int i, int what); public int variable(int v, int what); public int count(int what); }";
+            + "read(); public int fault(); public int place(int p, int what); public int fact(int p, int when, int "
+            + "what); public int error(int i, int what); public int variable(int v, int what); public int count("
+            + "int what); }";
         says("The public face", words);
         Set<String> methods = new TreeSet<>();
         for (Method method : AssignFlow.class.getDeclaredMethods()) {

@@ -231,13 +231,12 @@ public final class FaultTest extends TextCheck {
 
     private static void thirteenVariables() {
         CHECK.sentence(FAULT, "the $ or % of a 13th VARIABLE;");
-        String twelve = "$a;%b;$c;%d;$e;%f;$g;%h;$i;%j;$k;%l;";
-        good(twelve);
-        fault(twelve + "$m;", 36);
-        fault(twelve + "%m;", 36);
-        fault(twelve + " %a;", 37);
-        fault(twelve + "$", 36);
-        fault(twelve + "#;{{#;$m;}}", 42);
+        good(TWELVE);
+        fault(TWELVE + "$m;", 36);
+        fault(TWELVE + "%m;", 36);
+        fault(TWELVE + " %a;", 37);
+        fault(TWELVE + "$", 36);
+        fault(TWELVE + "#;{{#;$m;}}", 42);
         // VARIABLES that are there no more are counted, too.
         String inBlocks = times(12, "{$a;}");
         good(inBlocks);
@@ -245,8 +244,8 @@ public final class FaultTest extends TextCheck {
         fault("S(#){L:" + inBlocks + "%a;}", 67);
         good(times(11, "{$a;}") + "$a;");
         // But those of an earlier unit are not.
-        AssignFlow flow = Check.of(twelve);
-        CHECK.due("read() of twelve others", Check.read(flow, twelve), 12);
+        AssignFlow flow = Check.of(TWELVE);
+        CHECK.due("read() of twelve others", Check.read(flow, TWELVE), 12);
     }
 
     private static void labels() {
